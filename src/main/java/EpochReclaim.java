@@ -1,3 +1,4 @@
+/** Stepped threads on a lock-free stack over a small trapping heap, with epoch-based reclamation. */
 public final class EpochReclaim {
     public static final int NIL = -1;
     public static final int LIMBO_CAP = 32;
@@ -346,6 +347,8 @@ public final class EpochReclaim {
         }
     }
 
+    // In LINK, READ_CELL and RETIRE mine always names a cell. It is looked at all the same, as every index here is
+    // before it is used, so that no call can throw.
     private void link(int t) {
         int c = mine[t];
         if (isCell(c)) {

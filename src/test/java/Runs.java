@@ -1,0 +1,100 @@
+/** Runs of calls that several tests start from. */
+final class Runs {
+    private Runs() {
+    }
+
+    static void pushWhole(EpochReclaim x, int t, int v) {
+        x.push(t, v);
+        x.run(t, 64);
+    }
+
+    static void popWhole(EpochReclaim x, int t) {
+        x.pop(t);
+        x.run(t, 64);
+    }
+
+    static void steps(EpochReclaim x, int t, int count) {
+        for (int i = 0; i < count; i++) {
+            x.step(t);
+        }
+    }
+
+    static void advances(EpochReclaim x, int count) {
+        for (int i = 0; i < count; i++) {
+            x.tryAdvance();
+        }
+    }
+
+    /** The calls of topStolenFromPush, so that the model can be driven by them too. */
+    static final String[] TOP_STOLEN = {
+        "push 0 10", "run 0 64", "push 0 20", "run 0 64",
+        "pop 1", "run 1 3",
+        "pop 0", "run 0 64", "pop 0", "run 0 64",
+        "tryAdvance",
+        "push 0 30", "run 0 2",
+        "push 2 40", "run 2 64",
+        "run 1 64"
+    };
+
+    /**
+     * Gap 1, 8 cells, 3 threads, E 1. Thread 1's late CAS made cell 0 the top while thread 0, announced 1, holds it
+     * LIVE as mine with READ_TOP next. Limbo list 0 holds cell 1, RETIRED; the other lists are empty.
+     */
+    static EpochReclaim topStolenFromPush() {
+        EpochReclaim x = new EpochReclaim(8, 3, 1);
+        for (String call : TOP_STOLEN) {
+            perform(x, call);
+        }
+        return x;
+    }
+
+    /** As topStolenFromPush, and then thread 0 linked cell 0 to itself: all threads idle, every pop gets 30. */
+    static EpochReclaim selfLoop() {
+        EpochReclaim x = topStolenFromPush();
+        x.run(0, 64);
+        return x;
+    }
+
+    /** As topStolenFromPush, and then cells 0 (the top) and 2 link to each other: all threads idle. */
+    static EpochReclaim twoCellLoop() {
+        EpochReclaim x = topStolenFromPush();
+        pushWhole(x, 2, 50);
+        x.run(0, 64);
+        return x;
+    }
+
+    /** The call is a method's name and its arguments; a boolean answer counts 1 or 0. */
+    static int perform(EpochReclaim x, String call) {
+        String[] words = call.split(" ");
+        int t = words.length > 1 ? Integer.parseInt(words[1]) : 0;
+        int n = words.length > 2 ? Integer.parseInt(words[2]) : 0;
+        switch (words[0]) {
+            case "push":
+                return x.push(t, n) ? 1 : 0;
+            case "pop":
+                return x.pop(t) ? 1 : 0;
+            case "step":
+                return x.step(t);
+            case "run":
+                return x.run(t, n);
+            case "tryAdvance":
+                return x.tryAdvance() ? 1 : 0;
+            default:
+                throw new IllegalArgumentException(call);
+        }
+    }
+
+    /** A fixed sequence of numbers, so that every run of a test makes the same calls. */
+    static final class Dice {
+        private long state;
+
+        Dice(long seed) {
+            state = seed;
+        }
+
+        int below(int bound) {
+            state = state * 6364136223846793005L + 1442695040888963407L;
+            return (int) ((state >>> 33) % bound);
+        }
+    }
+}
