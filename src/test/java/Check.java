@@ -1,16 +1,46 @@
 import java.util.ArrayList;
 import java.util.List;
 
-/** Compares answers with the ones that are due, and looks at the whole state that an object shows. */
+/** Compares answers with the ones that are due; each test bears on one sentence of the document. */
 final class Check {
-    private static final int MOST_PRINTED = 20;
-    static final int[] FAR_INTS = {-1, -2, -100, Integer.MIN_VALUE, 100, Integer.MAX_VALUE};
+    private static final int MOST_PRINTED = 10;
 
     private final String about;
+    private int tests = 0;
+    private int failedTests = 0;
     private int wrong = 0;
 
     Check(String about) {
         this.about = about;
+    }
+
+    /** The sentence is in the document's own words; the test makes its own objects. */
+    void holds(String sentence, Runnable test) {
+        tests++;
+        wrong = 0;
+        try {
+            test.run();
+        } catch (RuntimeException | Error thrown) {
+            fail("threw " + thrown);
+        }
+        if (wrong != 0) {
+            failedTests++;
+            System.out.println(about + ": " + wrong + " wrong, does not hold: " + sentence);
+        }
+    }
+
+    void end() {
+        System.out.println(about + ": " + (tests - failedTests) + " of " + tests + " tests hold");
+        if (failedTests != 0) {
+            System.exit(1);
+        }
+    }
+
+    void fail(String what) {
+        wrong++;
+        if (wrong <= MOST_PRINTED) {
+            System.out.println(about + ": " + what);
+        }
     }
 
     void same(String call, long got, long due) {
@@ -25,23 +55,12 @@ final class Check {
         }
     }
 
-    void fail(String what) {
-        wrong++;
-        if (wrong <= MOST_PRINTED) {
-            System.out.println(about + ": " + what);
-        }
-    }
-
     /** Both lists come from {@link #state}. */
     void sameState(String after, List<String> got, List<String> due) {
-        for (int i = 0; i < due.size(); i++) {
-            if (!got.get(i).equals(due.get(i))) {
-                fail(after + ": now " + got.get(i) + ", due is " + due.get(i));
-            }
-        }
+        sameStateBut(after, got, due);
     }
 
-    /** As sameState, but the rows that start with one of the given words may differ. */
+    /** The rows that start with one of the given words may differ. */
     void sameStateBut(String after, List<String> got, List<String> due, String... words) {
         for (int i = 0; i < due.size(); i++) {
             if (!startsWithOne(due.get(i), words) && !got.get(i).equals(due.get(i))) {
@@ -59,10 +78,64 @@ final class Check {
         return false;
     }
 
-    void end() {
-        if (wrong != 0) {
-            System.out.println(about + ": " + wrong + " wrong");
-            System.exit(1);
+    /** The call is as in {@link Runs#perform}: its answer, and every getter the same before and after it. */
+    void refused(EpochReclaim x, String call, int due) {
+        List<String> before = state(x);
+        same(call, Runs.perform(x, call), due);
+        sameState("after the refused " + call, state(x), before);
+    }
+
+    void changesNothing(EpochReclaim x, String calls, Runnable made) {
+        List<String> before = state(x);
+        made.run();
+        sameState("after " + calls, state(x), before);
+    }
+
+    void step(EpochReclaim x, int t, int executed, int next) {
+        same("step(" + t + ")", x.step(t), executed);
+        same("phase(" + t + ") after step " + executed, x.phase(t), next);
+    }
+
+    /** Steps, with only the rows that start with one of the given words allowed to change, and the phase. */
+    void stepChanging(EpochReclaim x, int t, int executed, int next, String... words) {
+        List<String> before = state(x);
+        step(x, t, executed, next);
+        String[] all = new String[words.length + 1];
+        System.arraycopy(words, 0, all, 0, words.length);
+        all[words.length] = "phase(" + t;
+        sameStateBut("step " + executed + " of thread " + t, state(x), before, all);
+    }
+
+    void locals(EpochReclaim x, int t, int kind, int mine, int seen, int value, int result) {
+        int[] due = {kind, mine, seen, value, result};
+        for (int what = 0; what < due.length; what++) {
+            same("local(" + t + ", " + what + ")", x.local(t, what), due[what]);
+        }
+    }
+
+    void cell(EpochReclaim x, int c, int state, int value, int next) {
+        int[] due = {state, value, next};
+        for (int what = 0; what < due.length; what++) {
+            same("cell(" + c + ", " + what + ")", x.cell(c, what), due[what]);
+        }
+    }
+
+    void traps(EpochReclaim x, int accessTraps, int doubleFrees, int lastTrapCell) {
+        same("access traps", x.counter(EpochReclaim.C_ACCESS_TRAPS), accessTraps);
+        same("double frees", x.counter(EpochReclaim.C_DOUBLE_FREES), doubleFrees);
+        same("last trap cell", x.counter(EpochReclaim.C_LAST_TRAP_CELL), lastTrapCell);
+    }
+
+    void limbo(EpochReclaim x, int k, int... entries) {
+        same("limboSize(" + k + ")", x.limboSize(k), entries.length);
+        for (int i = 0; i < entries.length; i++) {
+            same("limboCell(" + k + ", " + i + ")", x.limboCell(k, i), entries[i]);
+        }
+    }
+
+    void counters(String when, EpochReclaim x, int... due) {
+        for (int what = 0; what < due.length; what++) {
+            same(when + ": counter(" + what + ")", x.counter(what), due[what]);
         }
     }
 

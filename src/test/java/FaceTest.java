@@ -24,12 +24,13 @@ public final class FaceTest {
         "int top()", "int cell(int, int)", "int limboSize(int)", "int limboCell(int, int)", "int counter(int)"
     };
 
-    public static void main(String[] args) throws IllegalAccessException {
-        sameSet("constants", publicConstants(), Set.of(CONSTANTS.split(" ")));
-        sameSet("methods", publicMethods(), Set.of(METHODS));
-        checkClass();
-        checkFields();
-        checkPrivateMethods();
+    public static void main(String[] args) {
+        CHECK.holds("Public constants", () -> sameSet("constants", publicConstants(), Set.of(CONSTANTS.split(" "))));
+        CHECK.holds("The public face", () -> sameSet("methods", publicMethods(), Set.of(METHODS)));
+        CHECK.holds("One class: the one of the document, public and final", FaceTest::checkClass);
+        CHECK.holds("Types: int, long, short, byte, char, boolean, and one-dimensional arrays of these.",
+            FaceTest::checkFields);
+        CHECK.holds("No private method bears the name of a public one.", FaceTest::checkPrivateMethods);
         CHECK.end();
     }
 
@@ -39,16 +40,24 @@ public final class FaceTest {
         }
     }
 
-    private static Set<String> publicConstants() throws IllegalAccessException {
+    private static Set<String> publicConstants() {
         Set<String> found = new TreeSet<>();
         for (Field field : EpochReclaim.class.getDeclaredFields()) {
             if (!Modifier.isPrivate(field.getModifiers())) {
                 CHECK.same(field + " is public static final int",
                     field.toString().startsWith("public static final int "), true);
-                found.add(field.getName() + "=" + field.get(null));
+                found.add(field.getName() + "=" + valueOf(field));
             }
         }
         return found;
+    }
+
+    private static Object valueOf(Field field) {
+        try {
+            return field.get(null);
+        } catch (IllegalAccessException refused) {
+            return "refused";
+        }
     }
 
     private static Set<String> publicMethods() {

@@ -21,6 +21,11 @@ public final class ModelTest {
     }
 
     public static void main(String[] args) {
+        CHECK.holds("all promises, as the model has them", ModelTest::runAll);
+        CHECK.end();
+    }
+
+    private static void runAll() {
         long[] reached = new long[8];
         for (int seed = 1; seed <= RUNS; seed++) {
             ModelTest test = seed % 2 == 0 ? fresh(seed) : corrupted(seed);
@@ -35,7 +40,6 @@ public final class ModelTest {
         CHECK.same("access traps were reached", reached[EpochReclaim.C_ACCESS_TRAPS] > 1000, true);
         CHECK.same("double frees were reached", reached[EpochReclaim.C_DOUBLE_FREES] > 1000, true);
         CHECK.same("dropped retires were reached", reached[EpochReclaim.C_DROPPED] > 100, true);
-        CHECK.end();
     }
 
     private static ModelTest fresh(int seed) {
@@ -70,6 +74,7 @@ public final class ModelTest {
     }
 
     private int farInt() {
-        return Check.FAR_INTS[dice.below(Check.FAR_INTS.length)];
+        int[] far = Edges.outside(0, threads - 1);
+        return far[dice.below(far.length)];
     }
 }

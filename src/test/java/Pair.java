@@ -7,10 +7,15 @@ final class Pair {
     private String latest = "construction";
 
     Pair(Check check, String name, int cells, int threads, int gap) {
+        this(check, name + ", new EpochReclaim(" + cells + ", " + threads + ", " + gap + ")",
+            new EpochReclaim(cells, threads, gap), new Model(cells, threads, gap));
+    }
+
+    Pair(Check check, String name, EpochReclaim x, Model model) {
         this.check = check;
-        this.name = name + ", new EpochReclaim(" + cells + ", " + threads + ", " + gap + ")";
-        x = new EpochReclaim(cells, threads, gap);
-        model = new Model(cells, threads, gap);
+        this.name = name;
+        this.x = x;
+        this.model = model;
     }
 
     /** The call is as in {@link Runs#perform}. */

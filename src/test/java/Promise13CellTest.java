@@ -1,62 +1,93 @@
-import java.util.List;
-
 /** Promise 13: cell. */
 public final class Promise13CellTest {
     private static final Check CHECK = new Check("promise 13");
 
     public static void main(String[] args) {
-        checkFreeCellKeepsContents();
-        for (int cells = 8; cells <= 32; cells++) {
-            checkRange(cells);
-        }
+        CHECK.holds("with what = `CELL_STATE` its state as a `STATE_` code, with `CELL_VALUE` its value, with "
+            + "`CELL_NEXT` its next (a cell number or NIL).", Promise13CellTest::eachField);
+        CHECK.holds("It answers -1 if c is not in `0..cells-1`", Promise13CellTest::cellOutsideItsRange);
+        CHECK.holds("or what is not in 0..2", Promise13CellTest::whatOutsideItsRange);
+        CHECK.holds("a genuine value may also be -1.", Promise13CellTest::genuineMinusOne);
+        CHECK.holds("A FREE cell still answers its stored value and next.", Promise13CellTest::freeCellAnswers);
+        CHECK.holds("Calling `cell(c, what)` is never an access and never traps; it changes nothing.",
+            Promise13CellTest::neverTraps);
         CHECK.end();
     }
 
-    private static void cell(EpochReclaim x, int c, int... due) {
-        for (int what = 0; what < due.length; what++) {
-            CHECK.same("cell(" + c + ", " + what + ")", x.cell(c, what), due[what]);
-        }
-    }
-
-    private static void checkFreeCellKeepsContents() {
+    private static void eachField() {
         EpochReclaim x = new EpochReclaim(8, 2, 3);
-        Runs.pushWhole(x, 0, -1);
-        Runs.pushWhole(x, 0, Integer.MIN_VALUE);
-        cell(x, 0, 1, -1, -1);
-        cell(x, 1, 1, Integer.MIN_VALUE, 0);
+        CHECK.cell(x, 0, EpochReclaim.STATE_FREE, 0, EpochReclaim.NIL);
+        Runs.pushWhole(x, 0, 5);
+        Runs.pushWhole(x, 0, Integer.MAX_VALUE);
+        CHECK.cell(x, 0, EpochReclaim.STATE_LIVE, 5, EpochReclaim.NIL);
+        CHECK.cell(x, 1, EpochReclaim.STATE_LIVE, Integer.MAX_VALUE, 0);
         Runs.popWhole(x, 0);
-        cell(x, 1, 2, Integer.MIN_VALUE, 0);
-        Runs.advances(x, 3);
-        List<String> before = Check.state(x);
-        cell(x, 1, 0, Integer.MIN_VALUE, 0);
-        CHECK.sameState("cell of a FREE cell", Check.state(x), before);
-        CHECK.same("access traps", x.counter(EpochReclaim.C_ACCESS_TRAPS), 0);
-        CHECK.same("last trap cell", x.counter(EpochReclaim.C_LAST_TRAP_CELL), EpochReclaim.NIL);
-        x.push(0, 3);
-        x.run(0, 2);
-        cell(x, 1, 1, 3, -1);
+        CHECK.cell(x, 1, EpochReclaim.STATE_RETIRED, Integer.MAX_VALUE, 0);
+        CHECK.cell(x, 0, EpochReclaim.STATE_LIVE, 5, EpochReclaim.NIL);
     }
 
-    private static void checkRange(int cells) {
-        EpochReclaim x = new EpochReclaim(cells, 2, 3);
-        for (int v = 0; v < cells; v++) {
-            Runs.pushWhole(x, 0, 1000 + v);
+    private static void cellOutsideItsRange() {
+        for (int cells = 8; cells <= 32; cells++) {
+            EpochReclaim x = Runs.fullHeap(cells, 2, 3, 1000);
+            for (int what = 0; what <= 2; what++) {
+                for (int c : Edges.outside(0, cells - 1)) {
+                    CHECK.same("cell(" + c + ", " + what + ") of " + cells, x.cell(c, what), -1);
+                }
+            }
+            for (int c = 0; c < cells; c++) {
+                CHECK.cell(x, c, EpochReclaim.STATE_LIVE, 1000 + c, c - 1);
+            }
         }
-        List<String> before = Check.state(x);
-        for (int what = 0; what < 3; what++) {
-            for (int c : Check.FAR_INTS) {
+    }
+
+    private static void whatOutsideItsRange() {
+        EpochReclaim x = Runs.fullHeap(32, 2, 3, 1000);
+        for (int what : Edges.outside(0, 2)) {
+            for (int c = 0; c < 32; c++) {
                 CHECK.same("cell(" + c + ", " + what + ")", x.cell(c, what), -1);
             }
-            CHECK.same("cell(cells, " + what + ")", x.cell(cells, what), -1);
+            for (int c : Edges.outside(0, 31)) {
+                CHECK.same("cell(" + c + ", " + what + ")", x.cell(c, what), -1);
+            }
         }
-        for (int what : Check.FAR_INTS) {
-            CHECK.same("cell(0, " + what + ")", x.cell(0, what), -1);
-            CHECK.same("cell(-1, " + what + ")", x.cell(-1, what), -1);
+        for (int c = 1; c < 32; c++) {
+            CHECK.cell(x, c, EpochReclaim.STATE_LIVE, 1000 + c, c - 1);
         }
-        CHECK.same("cell(0, 3)", x.cell(0, 3), -1);
-        for (int c = 0; c < cells; c++) {
-            cell(x, c, 1, 1000 + c, c - 1);
+    }
+
+    private static void genuineMinusOne() {
+        EpochReclaim x = new EpochReclaim(8, 2, 3);
+        CHECK.cell(x, 7, EpochReclaim.STATE_FREE, 0, -1);
+        Runs.pushWhole(x, 0, -1);
+        Runs.pushWhole(x, 0, -1);
+        CHECK.cell(x, 0, EpochReclaim.STATE_LIVE, -1, -1);
+        CHECK.cell(x, 1, EpochReclaim.STATE_LIVE, -1, 0);
+    }
+
+    private static void freeCellAnswers() {
+        for (int v : Edges.VALUES) {
+            EpochReclaim x = new EpochReclaim(8, 2, 3);
+            Runs.pushWhole(x, 0, 4);
+            Runs.pushWhole(x, 0, v);
+            Runs.popWhole(x, 0);
+            Runs.advances(x, 3);
+            CHECK.cell(x, 1, EpochReclaim.STATE_FREE, v, 0);
         }
-        CHECK.sameState("cell", Check.state(x), before);
+    }
+
+    /** In every situation, cells that are FREE among them, and with wrong arguments too. */
+    private static void neverTraps() {
+        for (Situations.Situation situation : Situations.all()) {
+            EpochReclaim x = situation.make();
+            int traps = x.counter(EpochReclaim.C_ACCESS_TRAPS);
+            CHECK.changesNothing(x, "cell, " + situation.name, () -> {
+                for (int c = -1; c <= 32; c++) {
+                    for (int what = -1; what <= 3; what++) {
+                        CHECK.same("cell called twice", x.cell(c, what), x.cell(c, what));
+                    }
+                }
+            });
+            CHECK.same("access traps", x.counter(EpochReclaim.C_ACCESS_TRAPS), traps);
+        }
     }
 }

@@ -13,6 +13,12 @@ final class Runs {
         x.run(t, 64);
     }
 
+    static void popsWhole(EpochReclaim x, int t, int count) {
+        for (int i = 0; i < count; i++) {
+            popWhole(x, t);
+        }
+    }
+
     static void steps(EpochReclaim x, int t, int count) {
         for (int i = 0; i < count; i++) {
             x.step(t);
@@ -23,6 +29,32 @@ final class Runs {
         for (int i = 0; i < count; i++) {
             x.tryAdvance();
         }
+    }
+
+    static void start(EpochReclaim x, int t, boolean pushing, int v) {
+        if (pushing) {
+            x.push(t, v);
+        } else {
+            x.pop(t);
+        }
+    }
+
+    /** The phases of a push or a pop that meets no hindrance, in their order. */
+    static int[] phases(boolean pushing) {
+        return pushing
+            ? new int[] {EpochReclaim.PH_PIN, EpochReclaim.PH_ALLOC, EpochReclaim.PH_READ_TOP, EpochReclaim.PH_LINK,
+                EpochReclaim.PH_CAS, EpochReclaim.PH_UNPIN}
+            : new int[] {EpochReclaim.PH_PIN, EpochReclaim.PH_READ_TOP, EpochReclaim.PH_READ_CELL, EpochReclaim.PH_CAS,
+                EpochReclaim.PH_RETIRE, EpochReclaim.PH_UNPIN};
+    }
+
+    /** Values first, first + 1 and so on, until no cell is FREE; then cell c holds first + c. */
+    static EpochReclaim fullHeap(int cells, int threads, int gap, int first) {
+        EpochReclaim x = new EpochReclaim(cells, threads, gap);
+        for (int i = 0; i < cells; i++) {
+            pushWhole(x, 0, first + i);
+        }
+        return x;
     }
 
     /** The calls of topStolenFromPush, so that the model can be driven by them too. */
@@ -42,9 +74,7 @@ final class Runs {
      */
     static EpochReclaim topStolenFromPush() {
         EpochReclaim x = new EpochReclaim(8, 3, 1);
-        for (String call : TOP_STOLEN) {
-            perform(x, call);
-        }
+        performAll(x, TOP_STOLEN);
         return x;
     }
 
@@ -61,6 +91,12 @@ final class Runs {
         pushWhole(x, 2, 50);
         x.run(0, 64);
         return x;
+    }
+
+    static void performAll(EpochReclaim x, String... calls) {
+        for (String call : calls) {
+            perform(x, call);
+        }
     }
 
     /** The call is a method's name and its arguments; a boolean answer counts 1 or 0. */
@@ -95,6 +131,18 @@ final class Runs {
         int below(int bound) {
             state = state * 6364136223846793005L + 1442695040888963407L;
             return (int) ((state >>> 33) % bound);
+        }
+
+        /** A call that is mostly not refused: an idle thread starts an operation, another one takes a step. */
+        String call(EpochReclaim x, int threads) {
+            int t = below(threads);
+            if (below(12) == 0) {
+                return "tryAdvance";
+            }
+            if (x.phase(t) != EpochReclaim.PH_IDLE) {
+                return "step " + t;
+            }
+            return below(2) == 0 ? "push " + t + " " + (below(200) - 100) : "pop " + t;
         }
     }
 }

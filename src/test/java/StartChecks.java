@@ -10,99 +10,125 @@ final class StartChecks {
         this.pushing = pushing;
     }
 
-    void checkAll() {
-        for (int threads = 2; threads <= 4; threads++) {
-            checkThreadsOutOfRange(threads);
-        }
-        for (int phase = EpochReclaim.PH_PIN; phase <= EpochReclaim.PH_UNPIN; phase++) {
-            checkRefusedInPhase(phase, true);
-            checkRefusedInPhase(phase, false);
-        }
-        checkFirstStart();
-        checkStartAfterAnother();
-    }
-
-    private boolean start(EpochReclaim x, int t, int v) {
-        return pushing ? x.push(t, v) : x.pop(t);
-    }
-
     private String call(int t, int v) {
-        return pushing ? "push(" + t + ", " + v + ")" : "pop(" + t + ")";
+        return pushing ? "push " + t + " " + v : "pop " + t;
     }
 
-    private void checkThreadsOutOfRange(int threads) {
-        EpochReclaim x = new EpochReclaim(8, threads, 3);
-        Runs.pushWhole(x, 0, 5);
-        List<String> before = Check.state(x);
-        for (int t : Check.FAR_INTS) {
-            check.same(call(t, 7), start(x, t, 7), false);
-        }
-        check.same(call(threads, 7), start(x, threads, 7), false);
-        check.sameState("refused for the thread", Check.state(x), before);
-        check.same(call(threads - 1, 7), start(x, threads - 1, 7), true);
+    private void accepted(EpochReclaim x, int t, int v) {
+        check.same(call(t, v), Runs.perform(x, call(t, v)), 1);
     }
 
-    private void checkRefusedInPhase(int phase, boolean otherPushes) {
+    /** Nothing that a step would do has been done. */
+    void executesNoStep() {
         EpochReclaim x = new EpochReclaim(8, 2, 3);
-        Runs.pushWhole(x, 1, 5);
-        if (otherPushes) {
-            x.push(0, 6);
-        } else {
-            x.pop(0);
-        }
-        for (int i = 0; i < 6 && x.phase(0) != phase; i++) {
-            x.step(0);
-        }
-        if (x.phase(0) == phase) {
-            List<String> before = Check.state(x);
-            check.same(call(0, 7) + " in phase " + phase, start(x, 0, 7), false);
-            check.sameState(call(0, 7) + " in phase " + phase, Check.state(x), before);
+        Runs.pushWhole(x, 0, 5);
+        accepted(x, 1, 7);
+        check.same("phase(1)", x.phase(1), EpochReclaim.PH_PIN);
+        check.same("announced(1), before PIN", x.announced(1), -1);
+        check.same("free cells", x.counter(EpochReclaim.C_FREE_CELLS), 7);
+        check.same("top()", x.top(), 0);
+        check.same("run(1, 64), with all its steps still to do", x.run(1, 64), 6);
+    }
+
+    void threadMustBeInRange() {
+        for (int threads = 2; threads <= 4; threads++) {
+            EpochReclaim x = new EpochReclaim(8, threads, 3);
+            Runs.pushWhole(x, 0, 5);
+            for (int t : Edges.outside(0, threads - 1)) {
+                check.refused(x, call(t, 7), 0);
+            }
+            for (int t = 0; t < threads; t++) {
+                accepted(x, t, 7);
+            }
+            for (int t : Edges.outside(0, threads - 1)) {
+                check.refused(x, call(t, 7), 0);
+            }
         }
     }
 
-    private void checkFirstStart() {
-        int[] values = {0, 1, -1, -7, Integer.MIN_VALUE, Integer.MAX_VALUE};
-        for (int v : values) {
-            EpochReclaim x = new EpochReclaim(8, 3, 3);
-            List<String> before = Check.state(x);
-            check.same(call(1, v), start(x, 1, v), true);
-            checkStarted(x, v, before);
+    /** In each phase of a push and of a pop it is refused, and right after UNPIN it is not. */
+    void threadMustBeIdle() {
+        for (boolean otherPushes : new boolean[] {true, false}) {
+            EpochReclaim x = new EpochReclaim(8, 2, 3);
+            Runs.pushWhole(x, 1, 5);
+            Runs.start(x, 0, otherPushes, 6);
+            for (int phase : Runs.phases(otherPushes)) {
+                check.same("phase(0)", x.phase(0), phase);
+                check.refused(x, call(0, 7), 0);
+                x.step(0);
+            }
+            check.same("phase(0)", x.phase(0), EpochReclaim.PH_IDLE);
+            accepted(x, 0, 7);
+            check.refused(x, call(0, 7), 0);
         }
     }
 
-    /** The locals of the operation before are gone, its lastResult and lastValue stay. */
-    private void checkStartAfterAnother() {
-        EpochReclaim x = new EpochReclaim(8, 3, 3);
-        x.tryAdvance();
-        Runs.pushWhole(x, 0, 4);
-        Runs.pushWhole(x, 1, 9);
-        x.pop(2);
-        Runs.steps(x, 2, 3);
-        List<String> before = Check.state(x);
-        check.same(call(1, -3), start(x, 1, -3), true);
-        checkStarted(x, -3, before);
-        check.same("lastResult after " + call(1, -3), x.lastResult(1), EpochReclaim.RES_OK);
-        check.same("lastValue after " + call(1, -3), x.lastValue(1), 9);
+    /** An operation that ends early, on an empty stack or a full heap, is not over before UNPIN either. */
+    void threadMustBeIdleAfterEarlyEnd() {
+        EpochReclaim empty = new EpochReclaim(8, 2, 3);
+        empty.pop(0);
+        empty.run(0, 2);
+        check.refused(empty, call(0, 7), 0);
+        empty.step(0);
+        accepted(empty, 0, 7);
 
-        EpochReclaim y = new EpochReclaim(8, 3, 3);
-        Runs.pushWhole(y, 0, 4);
-        Runs.pushWhole(y, 0, 9);
-        Runs.popWhole(y, 1);
-        before = Check.state(y);
-        check.same(call(1, -3), start(y, 1, -3), true);
-        checkStarted(y, -3, before);
+        EpochReclaim full = Runs.fullHeap(8, 2, 3, 0);
+        full.push(0, 5);
+        full.run(0, 2);
+        check.refused(full, call(0, 7), 0);
+        full.step(0);
+        accepted(full, 0, 7);
     }
 
-    private void checkStarted(EpochReclaim x, int v, List<String> before) {
-        String after = " after " + call(1, v);
-        check.same("kind" + after, x.local(1, EpochReclaim.L_KIND),
-            pushing ? EpochReclaim.KIND_PUSH : EpochReclaim.KIND_POP);
-        check.same("mine" + after, x.local(1, EpochReclaim.L_MINE), EpochReclaim.NIL);
-        check.same("seen" + after, x.local(1, EpochReclaim.L_SEEN), EpochReclaim.NIL);
-        check.same("value" + after, x.local(1, EpochReclaim.L_VALUE), pushing ? v : 0);
-        check.same("result" + after, x.local(1, EpochReclaim.L_RESULT), EpochReclaim.RES_NONE);
-        check.same("phase" + after, x.phase(1), EpochReclaim.PH_PIN);
-        check.same("announced" + after, x.announced(1), -1);
-        check.sameStateBut(call(1, v), Check.state(x), before, "local(1", "phase(1");
+    /** Another thread's operation is no hindrance. */
+    void otherThreadsMayBeBusy() {
+        EpochReclaim x = new EpochReclaim(8, 4, 3);
+        for (int t = 0; t < 4; t++) {
+            accepted(x, t, 7);
+            x.run(t, t);
+        }
+    }
+
+    void threadGetsItsLocals() {
+        for (int v : Edges.VALUES) {
+            for (int t = 0; t < 3; t++) {
+                EpochReclaim fresh = new EpochReclaim(8, 3, 3);
+                accepted(fresh, t, v);
+                checkLocals(fresh, t, v);
+
+                EpochReclaim x = new EpochReclaim(8, 3, 3);
+                Runs.pushWhole(x, t, 4);
+                Runs.pushWhole(x, t, 9);
+                accepted(x, t, v);
+                checkLocals(x, t, v);
+
+                EpochReclaim y = new EpochReclaim(8, 3, 3);
+                Runs.pushWhole(y, t, 4);
+                Runs.pushWhole(y, t, 9);
+                Runs.popWhole(y, t);
+                accepted(y, t, v);
+                checkLocals(y, t, v);
+            }
+        }
+    }
+
+    private void checkLocals(EpochReclaim x, int t, int v) {
+        check.locals(x, t, pushing ? EpochReclaim.KIND_PUSH : EpochReclaim.KIND_POP, EpochReclaim.NIL,
+            EpochReclaim.NIL, pushing ? v : 0, EpochReclaim.RES_NONE);
+        check.same("phase(" + t + ")", x.phase(t), EpochReclaim.PH_PIN);
+    }
+
+    void nothingElseChanges() {
+        for (Situations.Situation situation : Situations.all()) {
+            for (int t = 0; t < situation.threads; t++) {
+                EpochReclaim x = situation.make();
+                if (x.phase(t) == EpochReclaim.PH_IDLE) {
+                    List<String> before = Check.state(x);
+                    accepted(x, t, -3);
+                    check.sameStateBut(situation.name + ", " + call(t, -3), Check.state(x), before, "local(" + t,
+                        "phase(" + t);
+                }
+            }
+        }
     }
 }
