@@ -100,12 +100,8 @@ public final class Promise05RunTest {
             for (int t = 0; t < situation.threads; t++) {
                 for (int limit = 1; limit <= 8; limit++) {
                     EpochReclaim ran = situation.make();
-                    EpochReclaim stepped = situation.make();
-                    int done = 0;
-                    while (done < limit && stepped.phase(t) != EpochReclaim.PH_IDLE) {
-                        stepped.step(t);
-                        done++;
-                    }
+                    EpochReclaim stepped = situation.makeBySteps();
+                    int done = Runs.stepsUntilIdle(stepped, t, limit);
                     String call = situation.name + ": run(" + t + ", " + limit + ")";
                     CHECK.same(call, ran.run(t, limit), done);
                     CHECK.sameState(call, Check.state(ran), Check.state(stepped));

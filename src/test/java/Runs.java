@@ -25,6 +25,16 @@ final class Runs {
         }
     }
 
+    /** At most that many steps, and none once the thread is idle. Answers how many. */
+    static int stepsUntilIdle(EpochReclaim x, int t, int most) {
+        int done = 0;
+        while (done < most && x.phase(t) != EpochReclaim.PH_IDLE) {
+            x.step(t);
+            done++;
+        }
+        return done;
+    }
+
     static void advances(EpochReclaim x, int count) {
         for (int i = 0; i < count; i++) {
             x.tryAdvance();

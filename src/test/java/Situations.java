@@ -23,6 +23,20 @@ final class Situations {
             Runs.performAll(x, calls);
             return x;
         }
+
+        /** The same, but with as many calls of step in the place of each run. */
+        EpochReclaim makeBySteps() {
+            EpochReclaim x = new EpochReclaim(cells, threads, gap);
+            for (String call : calls) {
+                if (call.startsWith("run ")) {
+                    String[] words = call.split(" ");
+                    Runs.stepsUntilIdle(x, Integer.parseInt(words[1]), Integer.parseInt(words[2]));
+                } else {
+                    Runs.perform(x, call);
+                }
+            }
+            return x;
+        }
     }
 
     private Situations() {
