@@ -3,8 +3,8 @@ import java.lang.reflect.Field;
 import java.lang.reflect.Modifier;
 
 /**
- * Copies objects, and sets counters to what only thousands of millions of calls lead to. How the state is held is
- * free, so no field is called by its name here.
+ * Copies objects, and sets what no calls lead to, or only thousands of millions of them. How the state is held is free,
+ * so no field is called by its name here.
  */
 final class Inside {
     private Inside() {
@@ -53,6 +53,34 @@ final class Inside {
         } catch (IllegalAccessException refused) {
             throw new IllegalStateException(refused);
         }
+        return false;
+    }
+
+    /** Answers false, with x unchanged, if no element t of an int array alone stands behind the phase. */
+    static boolean setPhase(EpochReclaim x, int t, int phase) {
+        try {
+            for (Field field : EpochReclaim.class.getDeclaredFields()) {
+                if (field.getType() == int[].class && !Modifier.isStatic(field.getModifiers())) {
+                    field.setAccessible(true);
+                    int[] held = (int[]) field.get(x);
+                    if (t < held.length && setIfPhase(x, t, held, phase)) {
+                        return true;
+                    }
+                }
+            }
+        } catch (IllegalAccessException refused) {
+            throw new IllegalStateException(refused);
+        }
+        return false;
+    }
+
+    private static boolean setIfPhase(EpochReclaim x, int t, int[] held, int phase) {
+        int before = held[t];
+        held[t] = phase;
+        if (x.phase(t) == phase) {
+            return true;
+        }
+        held[t] = before;
         return false;
     }
 }

@@ -20,6 +20,8 @@ public final class Promise04StepTest {
         CHECK.holds("or `phase(t) == PH_IDLE`.", Promise04StepTest::refusedWhenIdle);
         CHECK.holds("answers the code of the phase that was executed (not the next one).",
             Promise04StepTest::answersTheExecutedPhase);
+        CHECK.holds("Only thread t, the cells, top, the limbo lists and the counters named below are affected",
+            Promise04StepTest::onlyWhatThePhaseNames);
         CHECK.holds("no other thread changes, and E never changes in a step.",
             Promise04StepTest::otherThreadsAndEpochStay);
         CHECK.holds("PUSH: PIN, ALLOC, READ_TOP, LINK, CAS, UNPIN", () -> sequence(true));
@@ -119,6 +121,61 @@ public final class Promise04StepTest {
                         "counter(0", "counter(2", "counter(3", "counter(5", "counter(6");
                 }
             }
+        }
+    }
+
+    private static void onlyWhatThePhaseNames() {
+        int[] met = new int[9];
+        for (int seed = 1; seed <= 60; seed++) {
+            Runs.Dice dice = new Runs.Dice(seed);
+            EpochReclaim x = seed % 2 == 0 ? Runs.twoCellLoop() : new EpochReclaim(8, 3, 1 + seed % 3);
+            for (int i = 0; i < 300; i++) {
+                String call = dice.call(x, 3);
+                List<String> before = Check.state(x);
+                int t = call.startsWith("step") ? Integer.parseInt(call.substring(5)) : -1;
+                int mineBefore = x.local(t, EpochReclaim.L_MINE);
+                int listBefore = Math.floorMod(x.announced(t), 3);
+                int phase = Runs.perform(x, call);
+                if (t >= 0) {
+                    met[phase]++;
+                    int c = phase == ALLOC ? x.local(t, EpochReclaim.L_MINE) : mineBefore;
+                    CHECK.sameStateBut("seed " + seed + ": " + call + " in phase " + phase, Check.state(x), before,
+                        named(phase, x.local(t, EpochReclaim.L_KIND), t, c, listBefore));
+                }
+            }
+        }
+        for (int phase = PIN; phase <= UNPIN; phase++) {
+            CHECK.same("phase " + phase + " was met", met[phase] > 20, true);
+        }
+    }
+
+    /** The rows of {@link Check#state} that the step may change, with c the cell and k the list that it names. */
+    private static String[] named(int phase, int kind, int t, int c, int k) {
+        String thread = "phase(" + t;
+        String mine = "local(" + t + ", " + EpochReclaim.L_MINE;
+        String seen = "local(" + t + ", " + EpochReclaim.L_SEEN;
+        String value = "local(" + t + ", " + EpochReclaim.L_VALUE;
+        String result = "local(" + t + ", " + EpochReclaim.L_RESULT;
+        String accessTraps = "counter(" + EpochReclaim.C_ACCESS_TRAPS;
+        String lastTrap = "counter(" + EpochReclaim.C_LAST_TRAP_CELL;
+        switch (phase) {
+            case EpochReclaim.PH_PIN:
+                return new String[] {thread, "announced(" + t};
+            case EpochReclaim.PH_ALLOC:
+                return new String[] {thread, mine, result, "cell(" + c + ",", "counter(" + EpochReclaim.C_FREE_CELLS};
+            case EpochReclaim.PH_READ_TOP:
+                return kind == PUSH ? new String[] {thread, seen} : new String[] {thread, mine, value, result};
+            case EpochReclaim.PH_LINK:
+                return new String[] {thread, "cell(" + c + ", " + EpochReclaim.CELL_NEXT, accessTraps, lastTrap};
+            case EpochReclaim.PH_READ_CELL:
+                return new String[] {thread, seen, value, accessTraps, lastTrap};
+            case EpochReclaim.PH_CAS:
+                return new String[] {thread, result, "top"};
+            case EpochReclaim.PH_RETIRE:
+                return new String[] {thread, "cell(" + c + ", " + EpochReclaim.CELL_STATE, "limboSize(" + k,
+                    "limboCell(" + k, "counter(" + EpochReclaim.C_DROPPED, "counter(" + EpochReclaim.C_RETIRES};
+            default:
+                return new String[] {thread, "announced(" + t, "lastResult(" + t, "lastValue(" + t};
         }
     }
 

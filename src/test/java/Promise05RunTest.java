@@ -12,6 +12,8 @@ public final class Promise05RunTest {
         CHECK.holds("or `phase(t) == PH_IDLE`.", Promise05RunTest::refusedWhenIdle);
         CHECK.holds("maxSteps is clamped into 1..64 (below 1 becomes 1", Promise05RunTest::belowOneBecomesOne);
         CHECK.holds("above 64 becomes 64)", Promise05RunTest::sixtyFourAndMore);
+        CHECK.holds("maxSteps is clamped into 1..64 (below 1 becomes 1, above 64 becomes 64). [a thread without an "
+            + "end]", Promise05RunTest::withoutAnEnd);
         CHECK.holds("It executes steps of t exactly as `step(t)` does, one after the other",
             Promise05RunTest::sameAsSteps);
         CHECK.holds("stopping as soon as `phase(t)` is `PH_IDLE`", Promise05RunTest::stopsWhenIdle);
@@ -83,6 +85,26 @@ public final class Promise05RunTest {
                 CHECK.same("run(0, " + limit + ")", longest().run(0, limit), 7);
             }
         }
+    }
+
+    /**
+     * No call leads to a phase that never ends, and without one no answer tells the bound 64 from 63 or 65. So the
+     * thread is given a phase that is none. If the class holds its phases in another way, or makes something else of
+     * such a phase, nothing is compared here.
+     */
+    private static void withoutAnEnd() {
+        int noPhase = 99;
+        for (int limit : LIMITS) {
+            EpochReclaim x = begun(true);
+            if (Inside.setPhase(x, 0, noPhase) && stays(x, noPhase)) {
+                CHECK.same("run(0, " + limit + ")", x.run(0, limit), Math.max(1, Math.min(64, limit)));
+            }
+        }
+    }
+
+    private static boolean stays(EpochReclaim x, int phase) {
+        Runs.steps(x, 0, 100);
+        return x.phase(0) == phase;
     }
 
     /** Thread 0 is about to read a cell that is no longer the top: its way is as long as one can be. */

@@ -5,25 +5,136 @@ public final class WordsTest {
     private static final Check CHECK = new Check("words used below");
 
     public static void main(String[] args) {
+        CHECK.holds("Cell c has a state (`STATE_FREE`, `STATE_LIVE` or `STATE_RETIRED`), a value (any int) and a next "
+            + "(a cell number or NIL).", WordsTest::cellsHoldWhatTheyMay);
         CHECK.holds("Freeing changes only the state.", WordsTest::freeingChangesOnlyTheState);
         CHECK.holds("Only the steps `PH_LINK` and `PH_READ_CELL` access a cell.", WordsTest::otherStepsNeverTrap);
         CHECK.holds("If that cell is FREE at that moment the access TRAPS: `C_ACCESS_TRAPS` rises by 1 and "
             + "`C_LAST_TRAP_CELL` becomes that cell", WordsTest::onlyAFreeCellTraps);
         CHECK.holds("then the access is carried out on the stored value and next all the same, and the state stays "
             + "FREE.", WordsTest::trappingAccessIsCarriedOut);
+        CHECK.holds("**Freeing** (happens only inside `tryAdvance`).", WordsTest::onlyAdvancesFree);
         CHECK.holds("If the cell is already FREE this is a DOUBLE FREE: `C_DOUBLE_FREES` rises by 1, "
             + "`C_LAST_TRAP_CELL` becomes the cell, and nothing else changes.", WordsTest::doubleFree);
         CHECK.holds("Otherwise the state becomes FREE.", WordsTest::retiredAndLiveCellsBecomeFree);
         CHECK.holds("**Allocation** always takes the FREE cell with the lowest number.",
             WordsTest::lowestFreeCellIsTaken);
+        CHECK.holds("**top**: a cell number or NIL.", WordsTest::topIsACellOrNil);
         CHECK.holds("each a sequence of at most `LIMBO_CAP` cell numbers in order of insertion",
             WordsTest::limboListIsBounded);
         CHECK.holds("the same cell may appear more than once.", WordsTest::sameCellTwiceInLimbo);
+        CHECK.holds("Each has a phase (the step it executes next; `PH_IDLE` when no operation is in progress)",
+            WordsTest::phaseIsTheNextStep);
+        CHECK.holds("a pinned flag, an announced epoch", WordsTest::pinnedBetweenPinAndUnpin);
         CHECK.holds("Locals keep their values after an operation ends until the next one starts.",
             WordsTest::localsAreKept);
         CHECK.holds("`C_FREE_CELLS` always equals the number of cells now FREE, and `C_EPOCH` always equals E.",
             WordsTest::countersFollowTheState);
         CHECK.end();
+    }
+
+    private interface OneCall {
+        /** The call has been made; the copy is what the object was before it. */
+        void check(String call, int answer, EpochReclaim before, EpochReclaim x);
+    }
+
+    /** Fixed runs with each gap, the odd ones with a stack that runs in a circle; 8 cells and 3 threads. */
+    private static void afterEachCall(OneCall test) {
+        for (int seed = 1; seed <= 24; seed++) {
+            Runs.Dice dice = new Runs.Dice(seed);
+            int gap = seed % 2 == 0 ? 1 + seed % 3 : 1;
+            EpochReclaim x = seed % 2 == 0 ? new EpochReclaim(8, 3, gap) : Runs.twoCellLoop();
+            for (int i = 0; i < 400; i++) {
+                String call = dice.call(x, 3);
+                EpochReclaim before = Inside.copyOf(x, 8, 3, gap);
+                int answer = Runs.perform(x, call);
+                test.check(call, answer, before, x);
+            }
+        }
+    }
+
+    private static boolean isCellOrNil(int c) {
+        return c >= EpochReclaim.NIL && c < 8;
+    }
+
+    private static void cellsHoldWhatTheyMay() {
+        int[] seen = new int[3];
+        afterEachCall((call, answer, before, x) -> {
+            for (int c = 0; c < 8; c++) {
+                int state = x.cell(c, EpochReclaim.CELL_STATE);
+                CHECK.same("a state that is one", state >= 0 && state <= 2, true);
+                CHECK.same("a next that is one", isCellOrNil(x.cell(c, EpochReclaim.CELL_NEXT)), true);
+                seen[state]++;
+            }
+        });
+        for (int state = 0; state < 3; state++) {
+            CHECK.same("state " + state + " was met", seen[state] > 0, true);
+        }
+        for (int v : Edges.VALUES) {
+            EpochReclaim x = new EpochReclaim(8, 2, 3);
+            Runs.pushWhole(x, 0, v);
+            CHECK.cell(x, 0, EpochReclaim.STATE_LIVE, v, -1);
+        }
+    }
+
+    private static void onlyAdvancesFree() {
+        int[] freed = new int[1];
+        afterEachCall((call, answer, before, x) -> {
+            for (int c = 0; c < 8; c++) {
+                if (x.cell(c, EpochReclaim.CELL_STATE) == EpochReclaim.STATE_FREE
+                    && before.cell(c, EpochReclaim.CELL_STATE) != EpochReclaim.STATE_FREE) {
+                    CHECK.same(call + " freed a cell", call.equals("tryAdvance"), true);
+                    freed[0]++;
+                }
+            }
+            if (x.counter(EpochReclaim.C_DOUBLE_FREES) != before.counter(EpochReclaim.C_DOUBLE_FREES)) {
+                CHECK.same(call + " freed a FREE cell", call.equals("tryAdvance"), true);
+            }
+        });
+        CHECK.same("cells were freed", freed[0] > 100, true);
+    }
+
+    private static void topIsACellOrNil() {
+        boolean[] met = new boolean[9];
+        afterEachCall((call, answer, before, x) -> {
+            CHECK.same("a top that is one", isCellOrNil(x.top()), true);
+            met[x.top() + 1] = true;
+        });
+        CHECK.same("NIL was met, and a cell", met[0] && met[1], true);
+    }
+
+    private static void phaseIsTheNextStep() {
+        afterEachCall((call, answer, before, x) -> {
+            if (call.startsWith("step")) {
+                CHECK.same(call, answer, before.phase(Integer.parseInt(call.substring(5))));
+            }
+        });
+        boolean[] inProgress = new boolean[3];
+        EpochReclaim x = new EpochReclaim(8, 3, 3);
+        Runs.Dice dice = new Runs.Dice(7);
+        for (int i = 0; i < 2000; i++) {
+            String call = dice.call(x, 3);
+            int answer = Runs.perform(x, call);
+            if (!call.equals("tryAdvance")) {
+                int t = Integer.parseInt(call.split(" ")[1]);
+                inProgress[t] = !call.startsWith("step") || answer != EpochReclaim.PH_UNPIN;
+            }
+            for (int t = 0; t < 3; t++) {
+                CHECK.same("phase(" + t + ") is not PH_IDLE", x.phase(t) != EpochReclaim.PH_IDLE, inProgress[t]);
+            }
+        }
+    }
+
+    private static void pinnedBetweenPinAndUnpin() {
+        afterEachCall((call, answer, before, x) -> {
+            for (int t = 0; t < 3; t++) {
+                int phase = x.phase(t);
+                boolean pinned = phase != EpochReclaim.PH_IDLE && phase != EpochReclaim.PH_PIN;
+                boolean justPinned = call.equals("step " + t) && answer == EpochReclaim.PH_PIN;
+                int due = justPinned ? x.counter(EpochReclaim.C_EPOCH) : before.announced(t);
+                CHECK.same("announced(" + t + ") after " + call, x.announced(t), pinned ? due : -1);
+            }
+        });
     }
 
     private static void freeingChangesOnlyTheState() {
