@@ -43,6 +43,11 @@ final class Check {
         }
     }
 
+    /** For what can only be compared while the class holds its state in a certain way, which it need not. */
+    void notCompared(String what) {
+        System.out.println(about + ": not compared: " + what);
+    }
+
     void same(String call, long got, long due) {
         if (got != due) {
             fail(call + " answered " + got + ", due is " + due);

@@ -192,12 +192,16 @@ public final class GeneralRulesTest {
             if (Inside.setCounter(x, what, Integer.MAX_VALUE)) {
                 Runs.popWhole(x, 0);
                 CHECK.same("counter(" + what + ") after the greatest int", x.counter(what), Integer.MIN_VALUE);
+            } else {
+                CHECK.notCompared("counter(" + what + ") after the greatest int");
             }
         }
         if (Inside.setCounter(x, EpochReclaim.C_DOUBLE_FREES, Integer.MAX_VALUE - 1)) {
             x.tryAdvance();
             CHECK.same("double frees after the greatest int", x.counter(EpochReclaim.C_DOUBLE_FREES),
                 Integer.MAX_VALUE - 1 + EpochReclaim.LIMBO_CAP);
+        } else {
+            CHECK.notCompared("double frees after the greatest int");
         }
     }
 }

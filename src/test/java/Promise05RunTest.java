@@ -89,8 +89,7 @@ public final class Promise05RunTest {
 
     /**
      * No call leads to a phase that never ends, and without one no answer tells the bound 64 from 63 or 65. So the
-     * thread is given a phase that is none. If the class holds its phases in another way, or makes something else of
-     * such a phase, nothing is compared here.
+     * thread is given a phase that is none, if the class holds its phases so that this can be done.
      */
     private static void withoutAnEnd() {
         int noPhase = 99;
@@ -98,6 +97,8 @@ public final class Promise05RunTest {
             EpochReclaim x = begun(true);
             if (Inside.setPhase(x, 0, noPhase) && stays(x, noPhase)) {
                 CHECK.same("run(0, " + limit + ")", x.run(0, limit), Math.max(1, Math.min(64, limit)));
+            } else {
+                CHECK.notCompared("run(0, " + limit + ") of a thread without an end");
             }
         }
     }
